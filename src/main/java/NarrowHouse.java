@@ -287,59 +287,46 @@ public final class NarrowHouse {
                 kind = END;
                 return;
             }
-            int c = bytes[at];
-            if (isSmall(c) || isCapital(c)) {
-                readWord(isCapital(c));
+            kind = kindOf(bytes[at]);
+            if (kind == NAME || kind == VARIABLE) {
+                readWord();
                 return;
             }
+            digit = bytes[at] - '0';
             at++;
-            if (isDigit(c)) {
-                digit = c - '0';
-                kind = NUMBER;
-            } else if (c == '-' && at < length && bytes[at] == '>') {
-                at++;
-                kind = ARROW;
-            } else {
-                kind = sign(c);
-            }
+            if (kind != ARROW) return;
+            if (at < length && bytes[at] == '>') at++;
+            else kind = BAD;
         }
 
-        private void readWord(boolean capital) {
+        private void readWord() {
             name = 0;
-            for (; at < length && isWordSign(bytes[at]); at++) {
+            for (; at < length && isWordKind(kindOf(bytes[at])); at++) {
                 name = name << 8 | bytes[at];
             }
             if (at - start > NAME_SIGNS) kind = BAD;
-            else if (capital) kind = VARIABLE;
             else if (name == SYM_NAME) kind = SYM;
-            else kind = name == RULE_NAME ? RULE : NAME;
+            else if (name == RULE_NAME) kind = RULE;
         }
 
-        private static int sign(int c) {
+        private static boolean isWordKind(int kind) {
+            return kind == NAME || kind == VARIABLE || kind == NUMBER;
+        }
+
+        /** The kind of TOKEN that begins with a sign. */
+        private static int kindOf(int c) {
+            if (c >= 'a' && c <= 'z') return NAME;
+            if (c >= 'A' && c <= 'Z') return VARIABLE;
+            if (c >= '0' && c <= '9') return NUMBER;
             switch (c) {
                 case '(': return OPEN;
                 case ')': return CLOSE;
                 case ',': return COMMA;
                 case ';': return SEMICOLON;
                 case '=': return EQUALS;
+                case '-': return ARROW;
                 default: return BAD;
             }
-        }
-
-        private static boolean isSmall(int c) {
-            return c >= 'a' && c <= 'z';
-        }
-
-        private static boolean isCapital(int c) {
-            return c >= 'A' && c <= 'Z';
-        }
-
-        private static boolean isDigit(int c) {
-            return c >= '0' && c <= '9';
-        }
-
-        private static boolean isWordSign(int c) {
-            return isSmall(c) || isCapital(c) || isDigit(c);
         }
     }
 
@@ -390,6 +377,12 @@ public final class NarrowHouse {
             place[size] = at;
             size++;
             next[size - 1] = size;
+        }
+
+        int argumentsGiven(int cell) {
+            int given = 0;
+            for (int a = cell + 1; given < TEXT_SIZE && a < next[cell]; given++) a = next[a];
+            return given;
         }
     }
 
@@ -446,8 +439,14 @@ public final class NarrowHouse {
             begin(n);
             book.symbols = 0;
             book.rules = 0;
-            boolean fine = readSymbols(book) && readRules(book) && checkSymbols(book);
-            for (int k = 0; fine && k < book.rules; k++) {
+            boolean fine = readSymbols(book);
+            for (int k = 0; k < RULE_ROOM && fine && text.kind == Text.RULE; k++) {
+                text.advance();
+                fine = readTwo(book, book.rule[k], Text.ARROW, RULE_VARIABLES) && take(Text.SEMICOLON);
+                book.rules = k + 1;
+            }
+            fine = fine && hasNoMoreRules() && checkSymbols(book);
+            for (int k = 0; k < book.rules && fine; k++) {
                 fine = checkNames(book, book.rule[k]) && checkRule(book.rule[k]);
             }
             return kind;
@@ -517,15 +516,8 @@ public final class NarrowHouse {
             return true;
         }
 
-        private boolean readRules(Book book) {
-            for (int k = 0; k <= RULE_ROOM && text.kind == Text.RULE; k++) {
-                if (book.rules >= RULE_ROOM) return refuse(FAULT_MANY, text.start);
-                text.advance();
-                Equation rule = book.rule[book.rules];
-                if (!readTwo(book, rule, Text.ARROW, RULE_VARIABLES) || !take(Text.SEMICOLON)) return false;
-                book.rules++;
-            }
-            return isLast(Text.END);
+        private boolean hasNoMoreRules() {
+            return text.kind == Text.RULE ? refuse(FAULT_MANY, text.start) : isLast(Text.END);
         }
 
         private boolean readTwo(Book book, Equation two, int sign, int most) {
@@ -589,9 +581,7 @@ public final class NarrowHouse {
             for (int c = 0; c < two.size; c++) {
                 int symbol = two.code[c];
                 if (symbol == UNKNOWN) return refuse(FAULT_NO_SYMBOL, two.place[c]);
-                int given = 0;
-                for (int a = c + 1; a < two.next[c]; a = two.next[a]) given++;
-                if (given != book.argumentsOf(symbol)) return refuse(FAULT_ARITY, two.place[c]);
+                if (two.argumentsGiven(c) != book.argumentsOf(symbol)) return refuse(FAULT_ARITY, two.place[c]);
             }
             return true;
         }
@@ -622,20 +612,26 @@ public final class NarrowHouse {
 
         private boolean settles(Equation rule, int s, int t) {
             if (rule.code[s] < 0) return false;
-            for (int a = s + 1; a < rule.next[s]; a = rule.next[a]) {
+            int a = s + 1;
+            for (int k = 0; k < ARITY_MOST && a < rule.next[s]; k++) {
                 if (isSame(rule, a, t) || isAboveAt(rule, a, t)) return true;
+                a = rule.next[a];
             }
             if (rule.code[t] < 0 || rule.code[s] < rule.code[t]) return false;
-            for (int b = t + 1; b < rule.next[t]; b = rule.next[b]) {
+            int b = t + 1;
+            for (int k = 0; k < ARITY_MOST && b < rule.next[t]; k++) {
                 if (!isAboveAt(rule, s, b)) return false;
+                b = rule.next[b];
             }
             return rule.code[s] > rule.code[t] || isAboveInArguments(rule, s, t);
         }
 
         private boolean isAboveInArguments(Equation rule, int s, int t) {
+            int a = s + 1;
             int b = t + 1;
-            for (int a = s + 1; a < rule.next[s] && b < rule.next[t]; a = rule.next[a]) {
+            for (int k = 0; k < ARITY_MOST && a < rule.next[s] && b < rule.next[t]; k++) {
                 if (!isSame(rule, a, b)) return isAboveAt(rule, a, b);
+                a = rule.next[a];
                 b = rule.next[b];
             }
             return false;
@@ -929,9 +925,11 @@ public final class NarrowHouse {
             for (int c = 0; c < size; c++) {
                 to[at + spots[c]] = row[from + c];
                 int spot = spots[c] + ends[c] - c;
-                for (int a = c + 1; a < ends[c]; a = ends[a]) {
+                int a = c + 1;
+                for (int k = 0; k < ARITY_MOST && a < ends[c]; k++) {
                     spot -= ends[a] - a;
                     spots[a] = spot;
+                    a = ends[a];
                 }
             }
         }
@@ -949,7 +947,11 @@ public final class NarrowHouse {
                 int cell = waiting[top];
                 boolean settled = cell < 0 || cell >= SETTLED;
                 settle(cell < 0 ? cell : cell & PLAIN, book);
-                if (!settled) trouble = step(book);
+                boolean stepped = false;
+                for (int k = 0; k < book.rules && !settled && !stepped; k++) {
+                    stepped = fits(book.rule[k]);
+                    if (stepped) trouble = contract(book.rule[k]);
+                }
             }
             return trouble < 0 ? trouble : steps;
         }
@@ -961,13 +963,6 @@ public final class NarrowHouse {
             low--;
             done[low] = cell;
             sizes[low] = end - low;
-        }
-
-        private int step(Book book) {
-            for (int k = 0; k < book.rules; k++) {
-                if (fits(book.rule[k])) return contract(book.rule[k]);
-            }
-            return 0;
         }
 
         private boolean fits(Equation rule) {
@@ -1009,22 +1004,21 @@ public final class NarrowHouse {
             if (total > FORM_SIZE) return GREAT;
             for (int c = rule.left; c < rule.size; c++) {
                 int cell = rule.mirror[c];
-                if (cell >= 0) await(cell);
-                else awaitSettled(bound[-1 - cell]);
+                if (cell < 0) {
+                    awaitSettled(bound[-1 - cell]);
+                } else if (top < FORM_SIZE) {
+                    waiting[top] = cell;
+                    top++;
+                }
             }
             low += gone;
             return 0;
         }
 
-        private void await(int cell) {
-            if (top >= FORM_SIZE) return;
-            waiting[top] = cell;
-            top++;
-        }
-
         private void awaitSettled(int at) {
-            for (int k = at; k < at + sizes[at]; k++) {
-                await(done[k] < 0 ? done[k] : done[k] | SETTLED);
+            for (int k = at; k < at + sizes[at] && top < FORM_SIZE; k++) {
+                waiting[top] = done[k] < 0 ? done[k] : done[k] | SETTLED;
+                top++;
             }
         }
 
@@ -1070,16 +1064,12 @@ public final class NarrowHouse {
             undecided = 0;
             for (int i = 0; i < book.rules; i++) {
                 for (int p = 0; p < book.rule[i].left; p++) {
-                    if (book.rule[i].code[p] >= 0) searchAt(i, p, book);
+                    for (int j = 0; j < book.rules; j++) {
+                        if (i == j && p == 0 || !overlap(i, p, j, book)) continue;
+                        if (total < PAIR_ROOM) keep(i, p, j, book);
+                        total++;
+                    }
                 }
-            }
-        }
-
-        private void searchAt(int i, int p, Book book) {
-            for (int j = 0; j < book.rules; j++) {
-                if (i == j && p == 0 || !overlap(i, p, j, book)) continue;
-                if (total < PAIR_ROOM) keep(i, p, j, book);
-                total++;
             }
         }
 
