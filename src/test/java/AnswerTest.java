@@ -8,6 +8,7 @@ final class AnswerTest {
         answersThatDoNotHold();
         answersLeftOpen();
         answersTooGreatToBeginWith();
+        oneSideTooGreat();
         covering();
         coveringWithOneVariableTwice();
         noAnswers();
@@ -91,6 +92,21 @@ final class AnswerTest {
         Check.due("200 on the right side", x.answer(0, 1), 1);
         x = grown(system, "c(k(" + tower(26, "a") + ",Z),W,V,U)=c(k(Y,Y),k(Y,Y),k(Y,Y),s(s(s(s(s(s(s(s(Y)))))))))", false, 1);
         Check.due("201 on the right side", x.answer(0, 1), 2);
+    }
+
+    /** One side alone is great, and its last SYMBOL is the 200th or the 201st. */
+    private static void oneSideTooGreat() {
+        String system = "sym a 0, s 1, c 4, w 1; rule w(X)->a;";
+        String small = "c(a," + tower(21, "a") + ",a,a)";
+        for (int k = 18; k <= 19; k++) {
+            String great = "c(w(" + tower(k, "c(Y,Y,Y,c(Y,Y,Y,Y))") + "),Y,a,a)";
+            for (int side = 0; side < 2; side++) {
+                NarrowHouse x = grown(system, side == 0 ? great + "=" + small : small + "=" + great, false, 1);
+                Check.due("ANSWERS", x.tree(3), 1);
+                Check.due("NODE", x.answer(0, 0), 1);
+                Check.due(182 + k + " on side " + side, x.answer(0, 1), k == 18 ? 1 : 2);
+            }
+        }
     }
 
     private static int find(NarrowHouse x, String values) {

@@ -14,6 +14,8 @@ final class LimitsTest {
         exactlyThreeHundredAnswers();
         exactlyThirtyThousandCells();
         lostBesideFull();
+        greatNodes();
+        longPath();
         manyCallsOnOne();
         Check.end();
     }
@@ -166,6 +168,14 @@ final class LimitsTest {
         both.same("CLOSED", both.house.tree(0), 2);
         both.same("54 CELLS of a NODE, 46 of its ANSWER", both.house.tree(5), 30000);
         both.same("ANSWERS", both.house.tree(3), 300);
+        both = planted(THREE_HUNDRED, "d(" + tower(33, "c(p,r,v,p)") + ",A)=d(Z," + tower(23, "Z") + ")", false);
+        both.grow(100);
+        both.reached(5, 173 * (72 + 101));
+        both.same("one NODE more would make 30,001", both.house.tree(1), 173);
+        both = planted(THREE_HUNDRED, "d(" + tower(31, "c(p,r,v,p)") + ",A)=d(Z," + tower(8, "Z") + ")", false);
+        both.grow(100);
+        both.reached(5, 218 * (55 + 82) + 55);
+        both.same("one ANSWER more would make 30,003", both.house.tree(3), 218);
     }
 
     /** 277 times 58 CELLS of a NODE and 50 of its ANSWER: then there is room for one NODE more, but not for its ANSWER. */
@@ -192,6 +202,30 @@ final class LimitsTest {
             both.grow(100);
             both.same("LOST", both.house.tree(4), full ? 3 : 1);
         }
+    }
+
+    /** One path, on which the VALUES of six VARIABLES and both sides get as great as they may. */
+    private static void greatNodes() {
+        String five = "q(s(s(s(s(s(A))))),s(s(s(s(s(B))))),s(s(s(s(s(C))))),r(s(s(s(s(s(D))))),s(s(s(s(s(E))))),s(s(s(s(s(F)))))))";
+        String system = "sym a 0, s 1, r 3, q 4, k 2; rule " + five + "->q(A,B,C,r(D,E,F));";
+        for (boolean full : new boolean[] {false, true}) {
+            LimitsTest both = planted(system, "k(q(A,B,C,r(D,E,F)),A)=D", full);
+            both.grow(5);
+            both.same("CLOSED", both.house.tree(0), 2);
+            both.same("NODES", both.house.tree(1), 19);
+            both.same("SIZE of the left side", both.house.node(18, 4), 100);
+            both.same("LOST", both.house.tree(4), 1);
+        }
+    }
+
+    /** One path of many NODES, each with new VARIABLES. */
+    private static void longPath() {
+        String system = "sym z 0, s 1, q 4; rule q(s(A),z,B,X)->q(A," + tower(10, "z") + ",X,B); rule q(A,s(B),C,X)->q(A,B,X,C);";
+        LimitsTest both = planted(system, "q(" + tower(25, "z") + ",z,X,Y)=z", false);
+        both.grow(100);
+        both.same("CLOSED", both.house.tree(0), 2);
+        both.same("NODES", both.house.tree(1), 276);
+        both.same("depth", both.house.node(275, 3), 275);
     }
 
     /** 512 calls, most of them dear ones. */

@@ -8,6 +8,7 @@ final class NormalTest {
 
     public static void main(String[] args) {
         forms();
+        firstSymbol();
         argumentsFirstAndFirstRule();
         faults();
         refused();
@@ -41,6 +42,16 @@ final class NormalTest {
         normal(g, "g(g(X,f(X)),g(X,f(X)))", 1, "a");
         normal(Check.house("sym a 0;"), "a", 0, "a");
         normal(Check.house("sym f 1, a 0, k 4; rule k(f(A),B,C,D)->k(A,D,C,B);"), "k(f(X),Y,Z,a)", 1, "k(X,a,Z,Y)");
+    }
+
+    /** SYMBOLS that were told first are like the others. */
+    private static void firstSymbol() {
+        NarrowHouse x = Check.house("sym f 1, g 2, a 0; rule f(f(X))->X; rule g(X,X)->f(X);");
+        normal(x, "f(f(f(a)))", 1, "f(a)");
+        normal(x, "g(f(f(X)),g(f(X),f(X)))", 4, "f(X)");
+        normal(x, "g(f(X),g(Y,Y))", 1, "g(f(X),f(Y))");
+        NarrowHouse y = Check.house("sym c 0, d 1, g 2; rule g(X,c)->d(X); rule d(c)->c;");
+        normal(y, "g(g(c,c),d(c))", 5, "c");
     }
 
     private static void argumentsFirstAndFirstRule() {

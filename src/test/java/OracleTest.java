@@ -20,6 +20,7 @@ final class OracleTest {
         "sym z 0, s 1, k 1, h 1; rule k(z)->z; rule k(s(X))->h(h(h(X))); rule h(X)->s(X);",
         "sym b 0, a 0, f 1, g 1, h 2; rule h(X,f(X))->g(X); rule h(g(Y),Z)->f(Y); rule g(g(X))->f(X); rule f(f(f(X)))->X; rule a->b;",
         "sym s 1, z 0, ack 2; rule ack(z,Y)->s(Y); rule ack(s(X),z)->ack(X,s(z)); rule ack(s(X),s(Y))->ack(X,ack(s(X),Y));",
+        "sym f 1, a 0, g 2; rule f(f(X))->X; rule g(X,f(X))->f(a);", "sym c 2, d 1, b 0; rule d(c(X,Y))->c(d(Y),d(X)); rule c(X,X)->X;",
         "sym a 0;", "sym x 0, f 3, k 2; rule f(X,Y,Z)->k(X,k(Y,Z)); rule k(x,X)->X;",
     };
 
@@ -222,6 +223,36 @@ final class OracleTest {
         }
     }
 
+    /** RULES of any two TERMS, most of which are none. */
+    private void anyRules() {
+        String symbols = "sym f 1, a 0, k 3, g 2, b 0, h 1; ";
+        readSymbols(symbols);
+        house = new NarrowHouse();
+        oracle = new Oracle();
+        story = "any rules";
+        for (int k = 0; k < 30; k++) {
+            String left = term(1 + dice.below(4), 3), right = dice.once(3) ? changed(left) : term(dice.below(4), 3);
+            String text = symbols + "rule " + left + "->" + right + ";";
+            story = text;
+            feed(text);
+            same("system", house.system(text.length()), oracle.system(text.length()));
+            sameFault();
+        }
+    }
+
+    /** The TERM with some SYMBOLS of one kind put for others. */
+    private String changed(String term) {
+        StringBuilder text = new StringBuilder(term);
+        for (int k = 0; k < text.length(); k++) {
+            char c = text.charAt(k);
+            if (!dice.once(3)) continue;
+            if (c == 'f' || c == 'h') text.setCharAt(k, dice.once(2) ? 'f' : 'h');
+            if (c == 'a' || c == 'b') text.setCharAt(k, dice.once(2) ? 'a' : 'b');
+            if (c >= 'P' && c <= 'R') text.setCharAt(k, (char) ('P' + dice.below(3)));
+        }
+        return text.toString();
+    }
+
     private void oneRun(int number) {
         String system = number % 3 != 0 ? SYSTEMS[dice.below(SYSTEMS.length)] : randomSystem();
         start(system);
@@ -234,6 +265,7 @@ final class OracleTest {
         for (int k = 0; k < 3; k++) unify(spoilt(term(3, 2) + " = " + term(3, 2)));
         for (int k = 0; k < 2; k++) goal(spoilt(term(1, 2) + " = " + term(1, 2)), false, 1);
         for (int k = 0; k < 6; k++) spoiltSystem(spoilt(system));
+        anyRules();
     }
 
     public static void main(String[] args) {

@@ -147,5 +147,11 @@ final class PairsTest {
         Check.due("PAIRS", x.count(2), 0);
         Check.due("JOIN", x.count(3), 0);
         Check.due("pair(0,0)", x.pair(0, 0), NONE);
+        x = Check.house("sym a 0, c 2, d 1, k 1; rule d(X)->c(X,X); rule k(X)->d(d(d(d(d(d(d(d(X)))))))); rule k(a)->a;");
+        Check.due("OPEN", x.count(4), 2);
+        Check.due("system", Check.system(x, "sym f 1; rule f(f(X))->X;"), 0);
+        Check.due("OPEN", x.count(4), 0);
+        Check.due("JOIN", x.count(3), 1);
+        pair(x, 0, 0, 1, 0, 1, "f(_1)=f(_1)");
     }
 }

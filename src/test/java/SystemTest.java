@@ -63,6 +63,9 @@ final class SystemTest {
         system(2, "sym^");
         system(2, "sym  ^");
         system(2, "^a 0;");
+        system(2, "^rule a->a;");
+        system(2, "^;");
+        system(2, "^rule X->a; rule Y->a;");
         system(2, "sym ^;");
         system(2, "sym ^A 0;");
         system(2, "sym ^sym 0;");
@@ -232,6 +235,26 @@ final class SystemTest {
         rule(7, "rule g(h(a,X),Y) ^-> h(X,a);");
         rule(0, "rule g(h(b,X),Y) -> h(a,X);");
         rule(7, "rule g(b,f(X)) ^-> g(f(a),X);");
+        String four = "sym a 0, f 1, k 4, h 1; ";
+        system(0, four + "rule k(f(X),A,B,C)->k(X,f(A),f(B),f(C));");
+        system(7, four + "rule k(f(X),A,B,C)^->k(X,h(A),B,C);");
+        system(7, four + "rule k(f(X),A,B,C)^->k(X,A,h(B),C);");
+        system(7, four + "rule k(f(X),A,B,C)^->k(X,A,B,h(C));");
+        system(7, four + "rule k(f(X),A,B,C)^->f(f(h(X)));");
+        system(7, four + "rule k(A,B,C,f(D))^->k(A,B,f(C),D);");
+        system(0, four + "rule k(A,B,C,f(D))->k(A,B,C,D);");
+        system(0, four + "rule k(A,B,f(C),D)->k(A,B,C,f(D));");
+        system(0, four + "rule h(k(A,B,C,D))->k(D,C,B,A);");
+        system(7, four + "rule f(k(A,B,C,D))^->k(D,C,B,A);");
+        system(0, four + "rule f(k(A,B,C,D))->k(A,B,C,D);");
+        String low = "sym k 4, g 2, h 1; ";
+        system(0, low + "rule g(X,Y)->k(X,Y,X,Y);");
+        system(7, low + "rule g(X,Y)^->k(h(X),Y,X,Y);");
+        system(7, low + "rule g(X,Y)^->k(X,h(Y),X,Y);");
+        system(7, low + "rule g(X,Y)^->k(X,Y,h(X),Y);");
+        system(7, low + "rule g(X,Y)^->k(X,Y,X,h(Y));");
+        system(7, low + "rule g(X,Y)^->k(X,Y,X,k(Y,Y,X,h(Y)));");
+        system(0, low + "rule h(k(X,Y,X,Y))->k(X,Y,X,k(Y,Y,X,g(Y,X)));");
     }
 
     private static void whatStaysWithAFault() {

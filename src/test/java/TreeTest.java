@@ -16,6 +16,7 @@ final class TreeTest {
         lostAnswers();
         anotherGoal();
         whatIsNoNode();
+        firstSymbol();
         Check.end();
     }
 
@@ -207,6 +208,24 @@ final class TreeTest {
         x = planted(system, "c(A,B)=c(c(B,B),c(c(c(C,C),c(C,C)),c(c(C,C),c(C,C))))", false);
         tree(x, 1, 1, 0, 1, 0);
         Check.due("ANSWER 0", x.node(0, 7), 0);
+        x = planted("sym a 0, f 1, c 2; rule f(X)->X; rule f(a)->a;",
+            "f(c(c(A,B),c(C,D)))=c(c(c(B,B),c(C,C)),c(c(D,D),c(c(c(c(E,E),c(E,E)),E),f(c(F,c(F,F))))))", false);
+        tree(x, 1, 1, 0, 0, 0);
+        Check.due("expand(1)", x.expand(1), 1);
+        tree(x, 1, 3, 1, 0, 1);
+        Check.due("expand(9)", x.expand(9), 4);
+        tree(x, 2, 5, 5, 0, 3);
+        Check.due("no ANSWER", x.node(3, 7), NONE);
+    }
+
+    /** SYMBOLS that were told first are like the others. */
+    private static void firstSymbol() {
+        NarrowHouse x = planted("sym f 1, a 0; rule f(f(X))->X;", "f(f(f(a)))=f(X)", false);
+        Check.due("expand(9)", x.expand(9), 8);
+        node(x, 0, "f(f(f(a)))=f(X)", "X=X", NONE, NONE, NONE, 0, 4, 2, 5, 0);
+        node(x, 1, "f(a)=f(X)", "X=X", 0, 0, 0, 1, 2, 2, 1, 1);
+        node(x, 2, "f(a)=f(X)", "X=X", 0, 1, 0, 1, 2, 2, 2, 2);
+        node(x, 3, "f(f(f(a)))=_1", "X=f(_1)", 0, 4, 0, 1, 4, 1, 4, 3);
     }
 
     private static void anotherGoal() {
