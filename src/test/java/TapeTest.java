@@ -97,6 +97,9 @@ final class TapeTest {
         Check.feed(y, text + "x");
         Check.due("system(1600)", y.system(1600), 2);
         Check.due("at", y.fault(1), 1599);
+        Check.feed(y, text + "-");
+        Check.due("half a sign at the last byte", y.system(1600), 1);
+        Check.due("at", y.fault(1), 1599);
     }
 
     private static void tapeIsEmptiedByEachText() {
@@ -113,6 +116,13 @@ final class TapeTest {
         Check.feed(x, "a=a, this is nothing");
         Check.due("goal", x.goal(3, false), 0);
         Check.due("all is gone", x.goal(1, false), NONE);
+        String cut = "sym a 0; rule a -> a;";
+        int[][] cuts = {{0, 2, 0}, {2, 2, 0}, {3, 2, 3}, {4, 2, 4}, {6, 2, 6}, {7, 2, 7}, {12, 2, 9}, {13, 2, 13}, {17, 1, 16}, {18, 2, 18}, {21, 7, 16}};
+        for (int[] one : cuts) {
+            Check.feed(x, cut);
+            Check.due("the first " + one[0] + " bytes", x.system(one[0]), one[1]);
+            Check.due("at", x.fault(1), one[2]);
+        }
         for (int k = 0; k < 4; k++) {
             Check.feed(x, "@ @ @ @ @ @ @ @ @ @ ");
             int got = k == 0 ? x.system(3) : k == 1 ? x.normal(3) : k == 2 ? x.unify(3) : x.goal(3, true);

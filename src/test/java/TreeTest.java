@@ -197,6 +197,8 @@ final class TreeTest {
         y = planted("sym a 0, s 1, w 1; rule w(" + tower(34, "X") + ")->w(X);", "w(X)=a", false);
         Check.due("a VALUE of 103", y.expand(9), 3);
         tree(y, 2, 3, 3, 0, 1);
+        Check.due("goal", Check.goal(y, "w(X)=a", false), 0);
+        tree(y, 1, 1, 0, 0, 0, 4 + 2 + 1 + 1, 1);
     }
 
     /** The sides are small, but what a VARIABLE becomes is not; and three doublings of 12 signs and more. */
