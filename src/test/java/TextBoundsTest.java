@@ -359,6 +359,10 @@ final class TextBoundsTest {
         goal(6, "^f=q");
         system(4, "sym a 0,b 0,^a 0; rule q->f(b);");
         system(1, "sym a 0,a 0; rule q->^@");
+        system(2, "sym ^,@");
+        system(2, "sym a ^,@");
+        system(2, "sym a 0,b ^,@");
+        system(2, "sym a ^5,@");
         system(5, SYMBOLS + "rule f(X)->a; rule f(X)->^q; rule X->a;");
         system(7, SYMBOLS + "rule f(X)->a; rule ^X->a; rule q->a;");
         system(5, SYMBOLS + "rule X->g(Y,^q);");
