@@ -16,6 +16,10 @@ final class OutBoundsTest {
         bytesOfAny();
         showOfAny();
         firstOfThoseThatAreOne();
+        eightVariablesOfARule();
+        namesOfAnEarlierGoal();
+        moreThanAHundredVariables();
+        sixteenSymbolsAndMoreVariables();
         Check.end();
     }
 
@@ -219,5 +223,80 @@ final class OutBoundsTest {
         shows(x, 2, 2, "A=k(A,B,k(_1,_2,_2,_1),D)", 25);
         shows(x, 3, 2, "C=k(_1,_2,_2,_1),A=A,B=B,D=D", 28);
         Check.due("no ANSWER", x.tree(3), 0);
+    }
+
+    private static void eightVariablesOfARule() {
+        String eight = "f(A1,B2,C3,f(D4,E5,F6,f(G7,Abcdefgh,A1,A1)))";
+        NarrowHouse x = Check.house("sym f 4; rule f(X,X,X,X)->X; rule " + eight + "->Abcdefgh;");
+        String due = eight + "->Abcdefgh";
+        shows(x, 0, 1, due, due.length());
+        shows(x, 0, 0, "f(X,X,X,X)->X", 13);
+    }
+
+    /** Names of other GOALS, TERMS and RULES are none of this one's. */
+    private static void namesOfAnEarlierGoal() {
+        NarrowHouse x = Check.house("sym a 0, s 1, k 4, f 1; rule f(s(X))->s(X); rule f(X)->X;");
+        for (int k = 0; k < 2; k++) Check.due("goal", Check.goal(x, "k(A,B,C,D)=k(E,F,A,B)", false), 0);
+        Check.due("unify", Check.unify(x, "k(A,B,C,D)=k(E,F,A,B)"), 1);
+        Check.due("goal", Check.goal(x, "f(f(X))=a", false), 0);
+        Check.due("expand(9)", x.expand(9), 8);
+        shows(x, 2, 1, "f(X)=a", 6);
+        shows(x, 2, 2, "f(s(_1))=a", 10);
+        shows(x, 3, 2, "X=s(_1)", 7);
+        shows(x, 2, 3, "f(X)=a", 6);
+        shows(x, 2, 4, "s(_1)=a", 7);
+        shows(x, 3, 4, "X=s(_1)", 7);
+        shows(x, 2, 5, "s(_1)=a", 7);
+        shows(x, 3, 6, "X=s(_1)", 7);
+        shows(x, 2, 7, "X=a", 3);
+        shows(x, 3, 7, "X=X", 3);
+        shows(x, 4, 0, "X=a", 3);
+    }
+
+    private static String nested(int steps, String end) {
+        String text = end;
+        for (int k = 0; k < steps; k++) text = "k(" + text + ",?,?,k(?,?,?,?))";
+        return text;
+    }
+
+    private static String numbered(String text) {
+        String done = text;
+        for (int k = 1; done.indexOf('?') >= 0; k++) done = done.replaceFirst("\\?", "_" + k);
+        return done;
+    }
+
+    /** Each STEP asks for seven VARIABLES where one was, twelve times for X and twelve times for Y. */
+    private static void moreThanAHundredVariables() {
+        String many = "k(A,B,C,k(D,E,F,G))";
+        NarrowHouse x = Check.house("sym z 0, k 4, f 2; rule f(" + many + ",Y)->f(A,Y); rule f(z," + many + ")->f(z,A);");
+        Check.due("goal", Check.goal(x, "f(X,Y)=z", false), 0);
+        for (int k = 0; k < 3; k++) x.expand(100);
+        Check.due("CLOSED", x.tree(0), 2);
+        // X is taken apart 0 to 12 times, then Y 0 to 12 times
+        Check.due("NODES", x.tree(1), 13 * 13);
+        int last = x.tree(1) - 1;
+        Check.due("depth", x.node(last, 3), 24);
+        shows(x, 2, last, "f(z,_1)=z", 9);
+        String due = numbered("X=" + nested(12, "z") + ",Y=" + nested(12, "?"));
+        Check.due("the last one", due.indexOf("_145"), due.length() - 6);
+        shows(x, 3, last, due, due.length());
+        int third = NONE;
+        for (int i = 0; i <= last; i++) if (x.node(i, 3) == 3 && x.node(i, 2) == 0) third = i;
+        due = numbered("X=" + nested(3, "?") + ",Y=Y");
+        shows(x, 3, third, due, due.length());
+    }
+
+    /** VARIABLES beyond the sixteenth, where all sixteen SYMBOLS have ARGUMENTS. */
+    private static void sixteenSymbolsAndMoreVariables() {
+        StringBuilder text = new StringBuilder("sym z 0");
+        for (int k = 0; k < 13; k++) text.append(", ").append((char) ('a' + k)).append(" 4");
+        String many = "a(A,B,C,a(D,E,F,G))";
+        NarrowHouse x = Check.house(text + ", n 4, w 2; rule w(" + many + ",Y)->w(A,Y); rule w(z," + many + ")->w(z,A);");
+        Check.due("SYMBOLS", x.count(0), 16);
+        Check.due("goal", Check.goal(x, "w(X,Y)=z", true), 0);
+        for (int k = 0; k < 3; k++) x.expand(100);
+        Check.due("NODES", x.tree(1), 13 * 13);
+        String due = numbered("X=" + nested(12, "z") + ",Y=" + nested(12, "?")).replace('k', 'a');
+        shows(x, 3, 13 * 13 - 1, due, due.length());
     }
 }

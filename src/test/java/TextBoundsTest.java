@@ -11,6 +11,9 @@ final class TextBoundsTest {
         aTokenAsLongAsTheTape();
         digits();
         wordsThatAreNoNames();
+        eachTokenAtEachPlaceOfASystem();
+        eachTokenAtEachPlaceOfATerm();
+        eachTokenAtEachPlaceOfAGoal();
         theEndOfASystem();
         theEndOfATermAndOfAGoal();
         theTextEndsBeforeTheTape();
@@ -173,6 +176,64 @@ final class TextBoundsTest {
             term(2, "f(^" + word + ")");
             system(0, "sym " + word + "s 0, " + word + "1 0, " + word.substring(1) + " 0;");
             term(0, "S" + word);
+        }
+    }
+
+    private static final String[] TOKENS = {"b", "B", "1", "(", ")", ",", ";", "=", "->", "sym", "rule"};
+
+    /** "2 it can't stand there", for each kind of TOKEN: at the end of the text all others than these are wrong. */
+    private static void eachTokenAtEachPlaceOfASystem() {
+        String[][] places = {
+            {"", "sym"}, {"sym ", "b"}, {"sym a ", "1"}, {"sym a 0 ", ",", ";"}, {"sym a 0,", "b"}, {"sym a 0, b ", "1"}, {"sym a 0;", "rule"},
+            {"sym a 0; rule ", "b", "B"}, {"sym a 0; rule a ", "(", "->"}, {"sym a 0; rule X ", "->"}, {"sym a 0; rule a(", "b", "B"},
+            {"sym a 0; rule a(a ", "(", ",", ")"}, {"sym a 0; rule a(X ", ",", ")"}, {"sym a 0; rule a(a,", "b", "B"},
+            {"sym a 0; rule a(a(a) ", ",", ")"}, {"sym a 0; rule a(a) ", "->"}, {"sym a 0; rule a -> ", "b", "B"},
+            {"sym a 0; rule a -> a ", "(", ";"}, {"sym a 0; rule a -> X ", ";"}, {"sym a 0; rule a -> a(", "b", "B"},
+            {"sym a 0; rule a -> a(X ", ",", ")"}, {"sym a 0; rule a -> a(a) ", ";"}, {"sym b 0, a 0; rule a -> b;", "rule"},
+        };
+        for (String[] place : places) {
+            for (String token : TOKENS) {
+                NarrowHouse x = new NarrowHouse();
+                Check.system(x, place[0] + token);
+                isWrongAt(x, place, token);
+            }
+        }
+    }
+
+    private static void isWrongAt(NarrowHouse x, String[] place, String token) {
+        boolean can = false;
+        for (int k = 1; k < place.length; k++) if (place[k].equals(token)) can = true;
+        boolean wrong = x.fault(0) == 2 && x.fault(1) == place[0].length();
+        Check.due(token + " behind " + place[0] + " is FAULT 2 at it", wrong, !can);
+    }
+
+    private static void eachTokenAtEachPlaceOfATerm() {
+        String[][] places = {
+            {"", "b", "B"}, {"f ", "("}, {"X "}, {"f(", "b", "B"}, {"f(a ", "(", ",", ")"}, {"f(X ", ",", ")"}, {"f(X,", "b", "B"}, {"f(a) "},
+            {"f(g(a) ", ",", ")"}, {"g(f(X),", "b", "B"}, {"g(X,f(X)) "},
+        };
+        for (String[] place : places) {
+            for (String token : TOKENS) {
+                NarrowHouse x = Check.house(SYMBOLS);
+                Check.normal(x, place[0] + token);
+                isWrongAt(x, place, token);
+            }
+        }
+    }
+
+    private static void eachTokenAtEachPlaceOfAGoal() {
+        String[][] places = {
+            {"", "b", "B"}, {"a ", "(", "="}, {"X ", "="}, {"f(", "b", "B"}, {"f(a ", "(", ",", ")"}, {"f(X ", ",", ")"}, {"f(a) ", "="},
+            {"a=", "b", "B"}, {"a=f ", "("}, {"a=X "}, {"a=f(", "b", "B"}, {"a=f(X ", ",", ")"}, {"a=f(a) "},
+        };
+        for (String[] place : places) {
+            for (String token : TOKENS) {
+                NarrowHouse x = Check.house(SYMBOLS);
+                Check.unify(x, place[0] + token);
+                isWrongAt(x, place, token);
+                Check.goal(x, place[0] + token, false);
+                isWrongAt(x, place, token);
+            }
         }
     }
 

@@ -11,6 +11,7 @@ final class TreeBoundsTest {
         threeHundredAndOneAnswers();
         thirtyThousandCells();
         fullInTheFirstNode();
+        greatestNode();
         fullTreeStays();
         expandOneToAHundred();
         closedWithTheLastNode();
@@ -207,6 +208,31 @@ final class TreeBoundsTest {
         tree(x, 3, 1 + 31 * 16 + 2, 0, 1, 0, 29998, 0);
         node(x, 498, 0, 31, 1, 1, 32, 40, 72, NONE);
         fullStays(x);
+    }
+
+    /**
+     * Both sides and six VALUES have a SIZE of 100 at last: each STEP takes three s of each VARIABLE, and puts two
+     * around. The other RULE, of nearly as many signs as one can have, makes one NODE more of each.
+     */
+    private static void greatestNode() {
+        StringBuilder left = new StringBuilder("q(A,B,C,r(D,E,F))");
+        String grown = left.toString().replaceAll("([A-F])", "s(s(s($1)))");
+        String fixed = tower("s", 24, "a");
+        String system = "sym a 0, s 1, r 3, q 4, k 2; rule " + grown + "->s(s(" + left + ")); rule k(X," + fixed + ")->" + tower("s", 39, "a") + ";";
+        for (boolean full : new boolean[] {false, true}) {
+            NarrowHouse x = planted(system, "k(" + left + "," + fixed + ")=A", full);
+            tree(x, 1, 1, 0, 0, 0, 45, 6);
+            Check.due("expand(100)", x.expand(100), 68);
+            // 45 + 23 n and 51 + 21 n for n from 0 to 33; fourteen ANSWERS of 47 + 15 n
+            tree(x, 2, 68, 68, 14, 1, 14433 + 13515 + 2023, 6);
+            node(x, 66, 64, 65, 0, 33, 100, 100, full ? 94 + 99 : 1 + 66 + 2 + 25, NONE);
+            node(x, 67, 66, 0, 1, 34, 40, 100, full ? 139 : 40, NONE);
+            Check.due("show(2,66)", x.show(2, 66), 2 + 3 * 66 + 23 + 1 + fixed.length() + 1 + 1 + 3 * 99 + 2);
+            Check.due("OUT", Check.out(x).startsWith("k(" + tower("s", 66, "q(_1,_2,_3,r(_4,_5,_6))") + "," + fixed + ")=s(s("), true);
+            Check.due("show(2,67)", Check.show(x, 2, 67), tower("s", 39, "a") + "=" + tower("s", 99, "_1"));
+            Check.due("show(3,67)", x.show(3, 67), 6 * (2 + 3 * 99 + 2) + 5);
+            Check.due("OUT", Check.out(x).startsWith("A=" + tower("s", 99, "_1") + ",B=" + tower("s", 99, "_2") + ",C=" + tower("s", 99, "_3")), true);
+        }
     }
 
     /** A GOAL with a FAULT leaves the TREE FULL, another one makes a new TREE. */
